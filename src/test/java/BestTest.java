@@ -48,6 +48,13 @@ final class BestTest {
         due.same("marbles v 201", x.marbles(0, 1, 201), Due.BEYOND);
         due.same("marbles v -1", x.marbles(0, 1, -1), Due.BEYOND);
         due.same("marbles v 0", x.marbles(0, 100, 0), 0);
+        due.same("marbles n 1", x.marbles(0, 1, 51), 1);
+        // the one minute of dusk among the 100 takes 1 back
+        x.dark(59);
+        x.set(0, 1, 100);
+        x.set(1, 1, 100);
+        due.same("all 99 of them", x.marbles(0, 100, 198), 99);
+        due.same("not to be had for 99", x.marbles(0, 100, 199), Due.NONE);
     }
 
     private static void night() {
@@ -61,6 +68,10 @@ final class BestTest {
         x.minutes(5);
         x.set(0, 1, 56);
         due.same("night(1) at 5", x.night(1), 6);
+        x.set(0, 1, 50);
+        x.minutes(53);
+        x.set(0, 1, 56);
+        due.same("night(1) at 58: the last DARK there is", x.night(1), 59);
         due.same("night(0)", x.night(0), Due.BEYOND);
         due.same("night(121)", x.night(121), Due.BEYOND);
         due.same("night(-1)", x.night(-1), Due.BEYOND);
@@ -70,6 +81,7 @@ final class BestTest {
     private static void enough() {
         OwingSwings x = Due.with(0);
         due.same("enough as it is", x.enough(0, 0, 50), 0);
+        due.same("enough 0", x.enough(0, 0, 0), 0);
         due.same("enough 51", x.enough(0, 0, 51), 1);
         due.same("enough 149", x.enough(0, 0, 149), 99);
         due.same("enough 150", x.enough(0, 0, 150), Due.NONE);

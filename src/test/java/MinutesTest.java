@@ -174,6 +174,15 @@ final class MinutesTest {
         due.same("level after 100", z.level(), 100);
         due.same("comes after 100", z.comes(1, 100), 100);
         due.same("comes never", z.comes(1, 101), Due.NONE);
+        due.same("comes 0", z.comes(1, 0), 0);
+        int[] kinds = new int[8];
+        OwingSwings all = Due.with(kinds);
+        all.dark(0);
+        for (int i = 0; i < 8; i++) {
+            all.set(i, 1, i < 4 ? 200 : 0);
+        }
+        due.same("level after 400, the last that is looked at", all.level(), 400);
+        due.same("the last one comes with it", all.comes(7, 100), 400);
     }
 
     private static void theLastMinute() {

@@ -91,6 +91,9 @@ final class TextTest {
         fault("childs", 0);
         fault("Child", 0);
         fault("chil", 0);
+        fault("vhild", 0);
+        fault("childz", 0);
+        fault("childa", 0);
         fault("child1", 5);
         fault("12", 0);
         fault("child#", 5);
