@@ -55,6 +55,8 @@ final class BestEdgesTest {
         twins.range("place(0, n)", Twins::mixed, (x, v) -> x.place(0, v), 1, 100);
         twins.refused("one alone", Twins::one, x -> x.place(0, 1), Due.NONE);
         twins.refused("one alone, the most", Twins::one, x -> x.place(0, 100), Due.NONE);
+        twins.refused("BEYOND before NONE", Twins::one, x -> x.place(0, 0), Due.BEYOND);
+        twins.refused("BEYOND before NONE", Twins::one, x -> x.place(0, 101), Due.BEYOND);
     }
 
     private static void placeHigherThanAsItIs() {
@@ -79,6 +81,14 @@ final class BestEdgesTest {
         x.swap(5, 7);
         due.same("the least of 5 and 6", x.place(0, 1), 5);
         due.same("and none of all this is there", x.of(0, 0), 1);
+        // on swing 0 as on swing 1 BIG comes to sit before the KIND ONE
+        twins.told("of 0 and 1 the least", BestEdgesTest::bigBehindKindOne, y -> y.place(2, 1), 0);
+    }
+
+    private static OwingSwings bigBehindKindOne() {
+        OwingSwings x = high(Due.with(2, 3, 1), 0, 50, 50);
+        x.set(0, 2, 0);
+        return x;
     }
 
     private static void kind() {
@@ -136,6 +146,9 @@ final class BestEdgesTest {
         twins.range("marbles(0, 1, v)", Twins::mixed, (x, v) -> x.marbles(0, 1, v), 0, 200);
         twins.told("alone as high as it is", Twins::one, x -> x.marbles(0, 100, 50), 0);
         twins.refused("alone no higher", Twins::one, x -> x.marbles(0, 100, 51), Due.NONE);
+        twins.refused("BEYOND before NONE", Twins::one, x -> x.marbles(0, 0, 51), Due.BEYOND);
+        twins.refused("BEYOND before NONE", Twins::one, x -> x.marbles(0, 101, 51), Due.BEYOND);
+        twins.refused("BEYOND before NONE", Twins::one, x -> x.marbles(0, 1, 201), Due.BEYOND);
     }
 
     /** SMALL by a KIND ONE has 1 a minute and pays 1; the one minute of DUSK among 100 takes 1 back. */
@@ -213,6 +226,9 @@ final class BestEdgesTest {
         }
         twins.refused("100 would be enough", Twins::one, x -> x.enough(0, 0, 150), Due.NONE);
         twins.refused("100 would be enough ON 100", Twins::one, x -> x.enough(0, 100, 150), Due.NONE);
+        twins.refused("BEYOND before NONE", Twins::one, x -> x.enough(0, -1, 150), Due.BEYOND);
+        twins.refused("BEYOND before NONE", Twins::one, x -> x.enough(0, 101, 150), Due.BEYOND);
+        twins.refused("BEYOND before NONE", Twins::one, x -> x.enough(0, 0, 201), Due.BEYOND);
         twins.told("99 to the top", () -> idle(101), x -> x.enough(0, 0, 200), 99);
         twins.refused("99 not to the top", () -> idle(100), x -> x.enough(0, 0, 200), Due.NONE);
         twins.told("at the top", () -> idle(200), x -> x.enough(0, 0, 200), 0);

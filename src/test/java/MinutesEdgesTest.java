@@ -169,6 +169,8 @@ final class MinutesEdgesTest {
         twins.told("as high as 0 at once", Twins::one, x -> x.comes(0, 0), 0);
         twins.told("as high as it is at once", Twins::one, x -> x.comes(0, 50), 0);
         twins.refused("alone never higher", Twins::one, x -> x.comes(0, 51), Due.NONE);
+        twins.refused("BEYOND before NONE", Twins::one, x -> x.comes(0, 201), Due.BEYOND);
+        twins.refused("BEYOND before NONE", Twins::one, x -> x.comes(1, 51), Due.BEYOND);
         OwingSwings top = Due.with(1, 3);
         top.set(0, 1, 190);
         top.set(1, 1, 10);
@@ -188,6 +190,7 @@ final class MinutesEdgesTest {
         twins.range("dust(child)", Twins::eight, (x, v) -> x.dust(v), 0, 7);
         twins.range("dust(child), alone", Twins::one, (x, v) -> x.dust(v), 0, 0);
         twins.refused("alone never", Twins::one, x -> x.dust(0), Due.NONE);
+        twins.refused("BEYOND before NONE", Twins::one, x -> x.dust(1), Due.BEYOND);
         OwingSwings x = Due.with(1, 3);
         x.set(1, 1, 6);
         due.same("1 is not yet dust", x.dust(1), 2);

@@ -14,6 +14,7 @@ final class TextEdgesTest {
         feedTillItIsFull();
         wipe();
         whatMayStandWhere();
+        anotherWord();
         numbersThatMayBe();
         endsTooEarly();
         faultIsTheFirst();
@@ -184,6 +185,30 @@ final class TextEdgesTest {
                 }
             }
         }
+    }
+
+    // "another WORD": one letter more, one less, or another one at each place of each WORD that there is
+
+    private static void anotherWord() {
+        for (String kind : KINDS) {
+            othersThan(kind, "", "");
+        }
+        othersThan("push", "", " 0 1");
+        othersThan("dark", "", " 1");
+        othersThan("high", "child ", " 1");
+        othersThan("marbles", "child ", " 1");
+        othersThan("marbles", "child high 1 ", " 1");
+    }
+
+    private static void othersThan(String word, String before, String behind) {
+        items(before + word + behind, 1);
+        for (int i = 0; i < word.length(); i++) {
+            char other = word.charAt(i) == 'z' ? 'a' : (char) (word.charAt(i) + 1);
+            fault(before + word.substring(0, i) + other + word.substring(i + 1) + behind, before.length());
+            fault(before + word.substring(0, i) + word.substring(i + 1) + behind, before.length());
+        }
+        fault(before + word + "s" + behind, before.length());
+        fault(before + "s" + word + behind, before.length());
     }
 
     // "high and a NUMBER (0 to 200) .. marbles and a NUMBER (0 to 99) .. push, a NUMBER (one there by then), a NUMBER
