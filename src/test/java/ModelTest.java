@@ -7,14 +7,19 @@ import java.util.Random;
 /** Every promise, in runs of calls drawn from a fixed seed: the class and the Model answer alike, and nothing throws. */
 final class ModelTest {
     private static final Due due = new Due();
-    private static final int RUNS = 700;
-    private static final int CALLS = 300;
+    private static final int RUNS = 450;
+    /** "An object is used for at most 512 calls after it has been made." */
+    private static final int CALLS = 512;
+    /** A text is fed by fewer calls than these. */
+    private static final int CALLS_OF_A_TEXT = 140;
     private static final int[] EDGES = {-1, 0, 1, 5, 6, 7, 8, 39, 40, 41, 59, 60, 99, 100, 101, 119, 120, 121, 200, 201, 400, 401,
         9999, 10000, -9999, -10000, Integer.MIN_VALUE, Integer.MAX_VALUE};
     private static final String[] PIECES = {"child", "big", "small", "kind", "queen", "baby", "high", "marbles", "push", "dark", ";", ";", ";",
         " ", " ", "0", "1", "7", "59", "60", "99", "100", "200", "201", "1000", "x", "#", "99999999999"};
     private static final String[] ITEMS = {"child", "big high 90", "small marbles 9", "kind high 199 marbles 0", "queen", "baby high 61",
         "push 0 9", "push 3 99", "dark 40", "dark 0"};
+
+    private static int called;
 
     public static void main(String[] args) throws Exception {
         Method[] face = OwingSwings.class.getDeclaredMethods();
@@ -31,20 +36,27 @@ final class ModelTest {
     private static void oneRun(int run, Method[] acts, Random random) throws Exception {
         OwingSwings x = new OwingSwings();
         Model model = new Model();
+        called = 0;
         int grown = random.nextInt(9);
         for (int i = 0; i < grown; i++) {
             int kind = random.nextInt(6);
-            due.same("run " + run + " child", x.child(kind), model.call("child", kind));
+            both("run " + run + " child", x.child(kind), model.call("child", kind));
             int height = random.nextInt(201);
-            due.same("run " + run + " set", x.set(i, 1, height), model.call("set", i, 1, height));
+            both("run " + run + " set", x.set(i, 1, height), model.call("set", i, 1, height));
         }
-        for (int i = 0; i < CALLS && !due.isWrong(); i++) {
-            if (random.nextInt(12) == 0) {
+        while (called < CALLS && !due.isWrong()) {
+            if (called < CALLS - CALLS_OF_A_TEXT && random.nextInt(12) == 0) {
                 tellBoth(run, x, model, random);
             } else {
                 callBoth(run, x, model, acts[random.nextInt(acts.length)], random);
             }
         }
+        due.same("calls of one object", called, CALLS);
+    }
+
+    private static void both(String call, long got, long want) {
+        called++;
+        due.same(call, got, want);
     }
 
     private static void callBoth(int run, OwingSwings x, Model model, Method act, Random random) throws Exception {
@@ -73,7 +85,7 @@ final class ModelTest {
             System.out.println(thrown.getCause());
             got = Long.MIN_VALUE + 1;
         }
-        due.same("run " + run + " " + name + Arrays.toString(told), got, model.call(name, told));
+        both("run " + run + " " + name + Arrays.toString(told), got, model.call(name, told));
     }
 
     /** Mostly what the act takes, at times an edge or anything. */
@@ -159,14 +171,14 @@ final class ModelTest {
             int s = random.nextInt(4);
             int b = bits[random.nextInt(bits.length)];
             int n = random.nextInt(12);
-            due.same("run " + run + " sheet", x.sheet(s, b, n), model.call("sheet", s, b, n));
+            both("run " + run + " sheet", x.sheet(s, b, n), model.call("sheet", s, b, n));
             int child = random.nextInt(8);
-            due.same("run " + run + " book", x.book(s, child), model.call("book", s, child));
+            both("run " + run + " book", x.book(s, child), model.call("book", s, child));
             int other = random.nextInt(8);
-            due.same("run " + run + " read", x.read(s, child, other), model.call("read", s, child, other));
+            both("run " + run + " read", x.read(s, child, other), model.call("read", s, child, other));
             return;
         }
-        due.same("run " + run + " wipe", x.wipe(), model.call("wipe"));
+        both("run " + run + " wipe", x.wipe(), model.call("wipe"));
         StringBuilder text = new StringBuilder();
         int pieces = random.nextInt(5) + 1;
         for (int i = 0; i < pieces; i++) {
@@ -182,8 +194,8 @@ final class ModelTest {
             }
         }
         for (int i = 0; i < text.length(); i++) {
-            due.same("run " + run + " feed", x.feed(text.charAt(i), 1), model.call("feed", text.charAt(i), 1));
+            both("run " + run + " feed", x.feed(text.charAt(i), 1), model.call("feed", text.charAt(i), 1));
         }
-        due.same("run " + run + " ground of '" + text + "'", x.ground(), model.call("ground"));
+        both("run " + run + " ground of '" + text + "'", x.ground(), model.call("ground"));
     }
 }

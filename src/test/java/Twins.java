@@ -44,6 +44,15 @@ final class Twins {
         due.same(call + ": nothing changes", Arrays.equals(look(x), look(twin)) ? 1 : 0, 1);
     }
 
+    /** An act that only looks: whatever it answers, nothing changes, and a finding alone is counted. */
+    void looked(String call, Maker maker, Act act) {
+        OwingSwings x = maker.make();
+        OwingSwings twin = maker.make();
+        int findings = act.on(x) < -1000000000 ? 1 : 0;
+        due.same(call + ": findings", x.status(-1), twin.status(-1) + findings);
+        due.same(call + ": nothing changes", Arrays.equals(look(x), look(twin)) ? 1 : 0, 1);
+    }
+
     /** Two objects that came the one and the other way to the same; neither is of use then. */
     void alike(String when, OwingSwings x, OwingSwings twin) {
         for (int which = -1; which < 7; which++) {

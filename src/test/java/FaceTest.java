@@ -4,13 +4,15 @@ import java.lang.reflect.Method;
 import java.lang.reflect.Modifier;
 import java.nio.file.Files;
 import java.nio.file.Path;
+import java.util.ArrayList;
+import java.util.List;
 import java.util.Set;
 import java.util.TreeSet;
 import java.util.regex.Matcher;
 import java.util.regex.Pattern;
 
-/** The face of the document and the rules of LANGUAGE.md that can be seen from outside. */
-final class RulesTest {
+/** The face of the document as it can be seen from outside, and the headings ahead of its calls. */
+final class FaceTest {
     private static final Due due = new Due();
     private static final String[] FACE = {
         "dark(int)int", "now(int)int", "child(int)int", "of(int,int)int", "set(int,int,int)int", "turn(int,int)int", "as(int,int)int",
@@ -20,10 +22,20 @@ final class RulesTest {
         "sheet(int,int,int)int", "write(int,int,long)long", "copy(int,int,int,int,int)int", "lays(int)int", "book(int,int)int",
         "read(int,int,int)int", "image()int", "undo()int", "tear()int", "count(int)int", "status(int)int"};
 
+    private static final String[][] SECTIONS = {
+        {"the ground", "dark", "now"},
+        {"children", "child", "of", "set", "turn", "as", "push", "swap"},
+        {"minutes", "minutes", "on", "owes", "level", "comes", "dust"},
+        {"what is best", "place", "kind", "marbles", "night", "enough", "whom", "debtor"},
+        {"the text", "feed", "wipe", "ground"},
+        {"sheets", "sheet", "write", "copy", "lays", "book", "read"},
+        {"images", "image", "undo", "tear", "count", "status"}};
+    private static final Pattern CALL = Pattern.compile("^    public (?:int|long) (\\w+)\\(");
+
     public static void main(String[] args) throws Exception {
         face();
         nested();
-        source();
+        headings();
         due.end();
     }
 
@@ -71,19 +83,27 @@ final class RulesTest {
         }
     }
 
-    private static void source() throws Exception {
-        String source = Files.readString(Path.of("src/main/java/OwingSwings.java"))
-            .replaceAll("(?s)/\\*.*?\\*/", "").replaceAll("//[^\n]*", "").replaceAll("\"[^\"\n]*\"", "\"\"");
-        Matcher banned = Pattern.compile("\\b(throw|throws|try|catch|synchronized|assert|package|protected|hashCode|toString|\\w+Exact)\\b|->|::")
-            .matcher(source);
-        while (banned.find()) {
-            due.same("banned: " + banned.group(), 1, 0);
+    /** "Ahead of the calls .. the interface says: ---- ..": each under its heading, in the order of the document. */
+    private static void headings() throws Exception {
+        List<String> is = new ArrayList<>();
+        String heading = "";
+        for (String line : Files.readAllLines(Path.of("src/main/java/OwingSwings.java"))) {
+            Matcher call = CALL.matcher(line);
+            if (line.startsWith("    // ---- ")) {
+                heading = line.substring(7);
+            } else if (call.find()) {
+                is.add(heading + ": " + call.group(1));
+            }
         }
-        Matcher imports = Pattern.compile("import ([^;]*);").matcher(source);
-        while (imports.find()) {
-            due.same("import of " + imports.group(1), imports.group(1).equals("java.util.Arrays") ? 1 : 0, 1);
+        List<String> want = new ArrayList<>();
+        for (String[] section : SECTIONS) {
+            for (int i = 1; i < section.length; i++) {
+                want.add("---- " + section[0] + ": " + section[i]);
+            }
         }
-        int made = source.split("\\bnew\\b", -1).length - 1;
-        due.same("objects made in constructors alone (count them anew if this changes)", made, 13);
+        due.same("calls under headings", is.size(), want.size());
+        for (int i = 0; i < Math.min(is.size(), want.size()); i++) {
+            due.same("the source says '" + is.get(i) + "', the document '" + want.get(i) + "'", is.get(i).equals(want.get(i)) ? 1 : 0, 1);
+        }
     }
 }
